@@ -251,7 +251,8 @@ public final class SeatOn {
     public int wheels(int a, int b, int x, int y) {
         if (a < 2 || a > 99 || b < 2 || b > 99) return BAD;
         if (x < 0 || x >= a || y < 0 || y >= b) return BAD;
-        for (int k = x; k < a * b; k += a) {
+        for (int rounds = 0; rounds < b; rounds++) {
+            int k = rounds * a + x;
             if (k % b == y) return k;
         }
         return NOT_ANY;
@@ -389,10 +390,7 @@ public final class SeatOn {
     public int act(int person, int act, int x) {
         acts.ran = 0;
         if (!isPerson(person) || act < 0 || act >= Acts.ACTS) return 0;
-        acts.person = person;
-        acts.kind = now.kinds[person];
-        acts.v = now.numbers[person];
-        return acts.run(acts.kind, act, x, 0);
+        return acts.begin(person, now.kinds[person], now.numbers[person], act, x);
     }
 
     public int trace(int i) {
@@ -866,13 +864,16 @@ public final class SeatOn {
         }
 
         private boolean passPart(House house, int depth) {
-            if (depth < MOST_DEPTH && passSign('!')) {
-                if (!passPart(house, depth + 1)) return false;
-                house.addStep(House.NOT);
-                return true;
-            }
+            if (depth < MOST_DEPTH && passSign('!')) return passNot(house, depth + 1);
             if (depth < MOST_DEPTH && passSign('(')) return passEither(house, depth + 1) && passSign(')');
             return passTest(house);
+        }
+
+        /** What is behind the !. */
+        private boolean passNot(House house, int depth) {
+            if (!passPart(house, depth)) return false;
+            house.addStep(House.NOT);
+            return true;
         }
 
         private boolean passTest(House house) {
@@ -1048,32 +1049,40 @@ public final class SeatOn {
             NO_BODY, NO_BODY, 60,
             71, 70, NO_BODY};
 
-        int person = 0;
-        int kind = VOICE;
-        int v = 0;
         int ran = 0;
         final int[] trace = new int[20];
+        private int person = 0;
+        private int kind = VOICE;
+        private int v = 0;
+
+        int begin(int ofPerson, int ofKind, int number, int act, int x) {
+            person = ofPerson;
+            kind = ofKind;
+            v = number;
+            return perform(ofKind, act, x, 0);
+        }
 
         /** The act's body of the KIND, or of the next one above that has one. */
-        int run(int from, int act, int x, int depth) {
+        private int perform(int from, int act, int x, int depth) {
             int holder = holderOf(from, act);
             if (holder < 0 || depth > MOST_DEPTH) return 0;
-            int body = BODIES[holder * ACTS + act];
-            int above = ABOVE[holder];
-            int deeper = depth + 1;
+            return runBody(BODIES[holder * ACTS + act], ABOVE[holder], x, depth + 1);
+        }
+
+        private int runBody(int body, int above, int x, int depth) {
             note(body);
             switch (body) {
                 case 10: return x + person;
-                case 11: return run(kind, RISES, x, deeper) - v;
-                case 12: return run(kind, SITS, x, deeper) * 2;
-                case 20: return run(above, SITS, x, deeper) ^ 6;
-                case 30: return run(above, RISES, x * 3, deeper);
-                case 40: return run(above, TELLS, x, deeper) + run(kind, SITS, 1, deeper);
-                case 50: return -run(above, RISES, x, deeper);
-                case 51: return run(above, SITS, x + 1, deeper);
-                case 60: return run(above, TELLS, x - person, deeper);
-                case 70: return run(above, SITS, x, deeper) + run(above, RISES, 2, deeper);
-                case 71: return run(above, RISES, x, deeper) ^ v;
+                case 11: return perform(kind, RISES, x, depth) - v;
+                case 12: return perform(kind, SITS, x, depth) * 2;
+                case 20: return perform(above, SITS, x, depth) ^ 6;
+                case 30: return perform(above, RISES, x * 3, depth);
+                case 40: return perform(above, TELLS, x, depth) + perform(kind, SITS, 1, depth);
+                case 50: return -perform(above, RISES, x, depth);
+                case 51: return perform(above, SITS, x + 1, depth);
+                case 60: return perform(above, TELLS, x - person, depth);
+                case 70: return perform(above, SITS, x, depth) + perform(above, RISES, 2, depth);
+                case 71: return perform(above, RISES, x, depth) ^ v;
                 default: return 0;
             }
         }

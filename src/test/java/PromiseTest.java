@@ -347,6 +347,9 @@ public final class PromiseTest {
         due("like(0, 0)", x.like(0, 0), 1);
         due("like(1, 0)", x.like(1, 0), 1);
         due("told(2)", x.told(2), 7);
+        due("house()", houseOf("like 1 p=0&!p<0;like 2 p<0|p=1;like 4 !(p<0|p=1)"), 5);
+        due("like(0, 0)", x.like(0, 0), 1 + 4);
+        due("like(1, 0)", x.like(1, 0), 2);
     }
 
     private static void told() {
@@ -550,6 +553,9 @@ public final class PromiseTest {
         x.seat(4, 0, 3);
         due("who(4)", x.who(4), 0);
         due("vote(4)", x.vote(4), 0);
+        due("who(0)", x.who(0), 0);
+        x.seat(0, 2, 1);
+        due("vote(4)", x.vote(4), 1);
     }
 
     private static void voteVetoed() {
@@ -635,6 +641,14 @@ public final class PromiseTest {
         due("told(1)", x.told(1), 9999);
         due("house()", houseOf("loath 1 t<60"), 1);
         due("soon(0)", x.soon(0), NOT_ANY);
+        fresh();
+        x.seats(7);
+        x.person(0, 0);
+        x.matter(50, 0, -1);
+        due("house()", houseOf("like 1 t=0&s=4"), 0);
+        due("soon(0)", x.soon(0), 60);
+        due("house()", houseOf("like 1 t=1&s=5"), 1);
+        due("soon(0)", x.soon(0), NOT_ANY);
     }
 
     private static void order() {
@@ -653,8 +667,15 @@ public final class PromiseTest {
         due("vote(1)", x.vote(1), 1);
         due("order(2, -1)", x.order(2, -1), SeatOn.BAD);
         due("order(61, -1)", x.order(61, -1), 61);
-        due("told(1)", x.told(1), 1);
-        due("at(0, 3)", x.at(0, 3), 0);
+        due("vote(0)", x.vote(0), 1);
+        due("order(1, 0)", x.order(1, 0), SeatOn.BAD);
+        due("order(62, 0)", x.order(62, 0), SeatOn.BAD);
+        due("vote(5)", x.vote(5), 1);
+        due("order(32, 0)", x.order(32, 0), SeatOn.BAD);
+        due("order(60, 0)", x.order(60, 0), SeatOn.BAD);
+        due("order(28, -1)", x.order(28, -1), 28);
+        due("told(1)", x.told(1), 3);
+        due("at(2, 3)", x.at(2, 3), 0);
     }
 
     /** 0 is carried at TURN 1 alone, 1 (worth 9) at TURN 2, 2 (worth 5) at 0 and 2; 3 is always tied. */
@@ -676,6 +697,8 @@ public final class PromiseTest {
         due("order(15, 1)", x.order(15, 1), 0);
         due("order(15, 2)", x.order(15, 2), 1);
         due("order(15, 3)", x.order(15, 3), 3);
+        due("order(9, -1)", x.order(9, -1), 0);
+        due("order(9, 1)", x.order(9, 1), 3);
         due("order(10, -1)", x.order(10, -1), 0);
         due("order(10, 0)", x.order(10, 0), 1);
         due("order(6, -1)", x.order(6, -1), 5);
@@ -784,6 +807,7 @@ public final class PromiseTest {
         due("wheels(4, 6, 1, 3)", x.wheels(4, 6, 1, 3), 9);
         due("wheels(4, 6, 1, 2)", x.wheels(4, 6, 1, 2), NOT_ANY);
         due("wheels(99, 98, 98, 97)", x.wheels(99, 98, 98, 97), 99 * 98 - 1);
+        due("wheels(99, 99, 98, 98)", x.wheels(99, 99, 98, 98), 98);
         due("wheels(2, 2, 0, 0)", x.wheels(2, 2, 0, 0), 0);
         due("wheels(1, 5, 0, 4)", x.wheels(1, 5, 0, 4), SeatOn.BAD);
         due("wheels(100, 5, 0, 4)", x.wheels(100, 5, 0, 4), SeatOn.BAD);
@@ -825,6 +849,19 @@ public final class PromiseTest {
         x.matter(50, 0, -1);
         due("house()", houseOf("tie 1"), 0);
         due("up(0, 0)", x.up(0, 0), 1);
+        fresh();
+        x.person(0, 0);
+        x.person(3, 1);
+        x.person(3, 7);
+        x.matter(50, 0, -1);
+        x.idle(6);
+        due("house()", houseOf("like 1 p=1"), 0);
+        due("up(0, 0)", x.up(0, 0), 1);
+        x.idle(3);
+        due("up(0, 0)", x.up(0, 0), 2);
+        due("up(2, 0)", x.up(2, 0), 2);
+        x.idle(1);
+        due("up(2, 0)", x.up(2, 0), 1);
     }
 
     private static void bestSeat() {
@@ -1200,10 +1237,12 @@ public final class PromiseTest {
         due("item(0, 0, 1)", x.item(0, 0, 1), NOTHING);
         due("tape(0, 3, 60)", x.tape(0, 3, 60), 1);
         due("item(0, 59, 7)", x.item(0, 59, 7), 1);
+        due("item(0, 0, 8)", x.item(0, 0, 8), 1);
         due("tape(0, 0, -1)", x.tape(0, 0, -1), SIZE);
         due("read(0, 59)", x.read(0, 59), 7);
         due("tape(0, 3, 60)", x.tape(0, 3, 60), 1);
         due("read(0, 59)", x.read(0, 59), 0);
+        due("read(0, 0)", x.read(0, 0), 0);
         due("tape(0, 3, 2)", x.tape(0, 3, 2), 1);
         due("read(0, 2)", x.read(0, 2), SeatOn.NO);
         due("tape(0, 4, 0)", x.tape(0, 4, 0), 1);
