@@ -1,6 +1,7 @@
 /** Thrown calls on SeatOn and on the Model must answer alike. */
 public final class ModelTest {
-    private static final int RUNS = 1500, CALLS = 400;
+    /** The longest step is a house of a hundred signs. */
+    private static final int RUNS = 3000, STEPS = 400, LONGEST_STEP = 101;
 
     private final Check check;
     private final int run;
@@ -10,6 +11,7 @@ public final class ModelTest {
     private final Model m = new Model();
     /** What part of the calls tells something, of a hundred: few in runs that ask much of a full wheel. */
     private final int telling;
+    private int calls = 0;
 
     private ModelTest(Check check, int run) {
         this.check = check;
@@ -27,7 +29,7 @@ public final class ModelTest {
 
     private void go() {
         begin();
-        for (int i = 0; i < CALLS && check.wrong() < 10; i++) {
+        for (int i = 0; i < STEPS && calls + LONGEST_STEP <= Calls.MOST_CALLS && check.wrong() < 10; i++) {
             if (dice.below(100) < telling) tell();
             else if (dice.oneIn(3)) tapes();
             else if (dice.oneIn(2)) askOfVotes();
@@ -36,6 +38,7 @@ public final class ModelTest {
     }
 
     private void due(String call, long got, long want) {
+        calls++;
         check.due("run " + run + ": " + call, got, want);
     }
 

@@ -321,7 +321,8 @@ public final class PromiseTest {
         dueFault(ten + ";tie 11", 60);
         String hundred = "like 01 p=1|p=2|p=3|p=4|p=5|p=6|p=7|p=8|p=9|p=1|p=2|p=3|p=4|p=5|p=6|p=7|p=8|p=9|p=1|p=2|p=3|p=4|p=05";
         due("a text's length", hundred.length(), 100);
-        due("house()", houseOf(hundred), 2);
+        fresh();
+        due("house()", houseOf(hundred), 0);
         dueFault(hundred.substring(0, 98) + "|", 98);
         dueFault(hundred.substring(0, 99) + "|", 100);
     }
